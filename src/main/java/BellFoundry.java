@@ -422,7 +422,7 @@ public final class BellFoundry {
         return FACTORS[profile] * 1000 / Math.max(1, root) + alloy / 4;
     }
 
-    /** Beyond this weight no new bell has a pitch, whatever its alloy. */
+    /** No new bell that is heavier than this has so high a pitch, whatever its alloy; it spares trying them. */
     private static int heaviestAtPitch(int profile, int pitch) {
         int pitchByWeight = pitch - MOST_ALLOY_PITCH;
         if (pitchByWeight < 1) {
@@ -640,8 +640,9 @@ public final class BellFoundry {
         private final Order[] orders = new Order[MOST_ORDERS];
         private int poured = 0;
         private int came = 0;
-        /** Used again and again for metal on its way, and no part of the state. */
-        private final Mixture hand = new Mixture();
+        /** These two are used again and again by single calls, and are no part of the state. */
+        private final Mixture ladle = new Mixture();
+        private final Mixture burnt = new Mixture();
 
         Works() {
             for (int i = 0; i < bells.length; i++) {
@@ -694,13 +695,13 @@ public final class BellFoundry {
             }
         }
 
-        /** The melt as it would be if it burned once; good until metal moves again. */
+        /** The melt as it would be if it burned once. */
         Mixture burntMelt() {
-            hand.copyFrom(melt);
+            burnt.copyFrom(melt);
             for (int metal = COPPER; metal <= TIN; metal++) {
-                hand.put(metal, -melt.lossOf(metal, settings[metal]));
+                burnt.put(metal, -melt.lossOf(metal, settings[metal]));
             }
-            return hand;
+            return burnt;
         }
 
         private int sprueOf(int pounds) {
@@ -716,8 +717,8 @@ public final class BellFoundry {
             burn(melt);
             Bell cast = bells[poured];
             melt.drawInto(cast.metal, pounds);
-            melt.drawInto(hand, sprueOf(pounds));
-            heap.add(hand, SPRUE);
+            melt.drawInto(ladle, sprueOf(pounds));
+            heap.add(ladle, SPRUE);
             int alloy = cast.metal.alloy();
             cast.profile = profile;
             cast.pitch = firstPitch(profile, rootOf(pounds), alloy);
@@ -735,8 +736,8 @@ public final class BellFoundry {
                 bell.state = CRACKED;
             }
             bell.drawn += pounds;
-            bell.metal.drawInto(hand, pounds);
-            heap.add(hand, SHAVINGS);
+            bell.metal.drawInto(ladle, pounds);
+            heap.add(ladle, SHAVINGS);
         }
 
         void breakUp(Bell bell) {
@@ -823,8 +824,7 @@ public final class BellFoundry {
         }
 
         int heaviestBellFor(Order order) {
-            Mixture burnt = burntMelt();
-            int weight = burnt.weight();
+            int weight = burntMelt().weight();
             int most = Math.min(weight, heaviestAtPitch(order.profile, order.pitch));
             int root = rootOf(most);
             for (int pounds = most; pounds >= 1; pounds--) {
@@ -922,7 +922,7 @@ public final class BellFoundry {
         private int bestFor(int bells, int load) {
             int least = WAGON * (size + 1);
             for (int i = 0; i < size; i++) {
-                if ((bells & 1 << i) != 0) {
+                if ((bells & (1 << i)) != 0) {
                     int others = best[bells - (1 << i)];
                     int last = others % WAGON;
                     int packed = last + weights[i] <= load
@@ -1043,17 +1043,18 @@ public final class BellFoundry {
             return sign - '0';
         }
 
-        /** The readers of parts return the reason of a fault. */
+        /** Like all that read a part, it returns the reason of a fault. */
         private int readSign(char sign, Works works) {
             if (isDigit(sign)) {
                 return readBell(digit(sign), works);
             }
-            switch (sign) {
-                case '(': return openBeam();
-                case ',': return passComma();
-                case ')': return closeBeam();
-                default: return MISPLACED;
+            if (sign == '(') {
+                return openBeam();
             }
+            if (sign == ',') {
+                return passComma();
+            }
+            return sign == ')' ? closeBeam() : MISPLACED;
         }
 
         private int readBell(int number, Works works) {

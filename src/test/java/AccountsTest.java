@@ -9,7 +9,9 @@ final class AccountsTest {
     public static void main(String[] args) {
         promise19Account();
         promise20Count();
+        promise20SentAndSmashed();
         promise21Undo();
+        promise21LotsComeBack();
         promise21EachChange();
         promise21NoChange();
         promise21TextRemains();
@@ -85,6 +87,46 @@ final class AccountsTest {
         }
         for (int what = 0; what <= 6; what++) {
             Due.due("count(" + (20 + what) + ")", f.count(20 + what), 40 + what);
+        }
+    }
+
+    private static void promise20SentAndSmashed() {
+        BellFoundry f = Foundries.withoutBurn(8000, 2000);
+        for (int i = 0; i < 6; i++) {
+            f.pour(0, 1000);
+        }
+        f.order(0, 950, 0);
+        f.smash(0);
+        f.smash(1);
+        f.send(2, 0);
+        f.tune(3, 101);
+        Due.due("remaining", f.count(2), 3);
+        Due.due("cracked", f.count(3), 1);
+        Due.due("sent", f.count(4), 1);
+        f.smash(3);
+        Due.due("a cracked one that is smashed does not count", f.count(3), 0);
+        Due.due("copper in bells", f.account(0, 4), 1600);
+        Due.due("copper in sent bells", f.account(0, 5), 800);
+    }
+
+    private static void promise21LotsComeBack() {
+        BellFoundry f = Foundries.withoutBurn(8000, 2000);
+        f.pour(0, 1000);
+        f.tune(0, 10);
+        f.pour(0, 100);
+        f.tune(0, 3);
+        int[] kinds = {0, 1, 0, 1};
+        int[] weights = {50, 10, 5, 3};
+        f.scrap(0);
+        f.scrap(2);
+        f.scrap(0);
+        f.undo();
+        f.undo();
+        f.undo();
+        Due.due("lots", f.count(0), 4);
+        for (int lot = 0; lot < 4; lot++) {
+            Due.due("kind of lot " + lot, f.lot(lot, 4), kinds[lot]);
+            Due.due("weight of lot " + lot, f.lot(lot, 2), weights[lot]);
         }
     }
 

@@ -8,6 +8,7 @@ final class BellsTest {
         promise8PitchByWeight();
         promise8BurnBellAndSprue();
         promise8Sprue();
+        promise8TheLastPounds();
         promise8Cracks();
         promise8TooLight();
         promise8TwelveBells();
@@ -80,6 +81,17 @@ final class BellsTest {
         Due.due("just above", f.lot(2, 2), 2);
     }
 
+    private static void promise8TheLastPounds() {
+        BellFoundry f = Foundries.withoutBurn(1, 0);
+        f.set(4, 0);
+        Due.due("a pound of a pound", f.pour(0, 1), 0);
+        Due.due("its copper", f.bell(0, 0), 1);
+        Due.due("its tin", f.bell(0, 1), 0);
+        Due.due("its pitch", f.bell(0, 5), 9000);
+        Due.due("no copper is left", f.melt(0), 0);
+        Due.due("no tin is left", f.melt(1), 0);
+    }
+
     private static void promise8Cracks() {
         int[][] alloys = {{179, 1}, {180, 0}, {260, 0}, {261, 1}, {0, 1}, {1000, 1}};
         for (int[] alloy : alloys) {
@@ -143,6 +155,16 @@ final class BellsTest {
         Due.due("poured", f.count(1), 100);
         Due.due("bell(99, 6)", f.bell(99, 6), 10);
         Due.due("bell(100, 6)", f.bell(100, 6), -1);
+        f.undo();
+        f.order(0, 20000, 0);
+        f.order(0, f.bell(99, 5), 0);
+        Due.due("of a hundred bells none fits", f.orderOf(0, 4), -4);
+        Due.due("how many fit", f.orderOf(0, 5), 0);
+        Due.due("the last one fits", f.orderOf(1, 4), 99);
+        Due.due("how many fit", f.orderOf(1, 5), 1);
+        Due.due("a wagon for it", f.wagons(1), 1);
+        Foundries.write(f, "99");
+        Due.due("a frame of it", f.frame(0), 10);
     }
 
     private static void promise9Tune() {

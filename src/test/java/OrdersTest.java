@@ -14,6 +14,7 @@ final class OrdersTest {
         promise16TuneFor();
         promise16CrackAndWeight();
         promise17PourFor();
+        promise17ByRootAndAlloy();
         promise17ByTheMeltAlone();
         promise17AgainstPouring();
         promise18Wagons();
@@ -143,12 +144,23 @@ final class OrdersTest {
         f.order(0, 960, 10);
         f.order(0, 940, 10);
         f.order(0, 944, 0);
+        f.order(1, 1200, 50);
         // The pitches are 1250 of a ship bell, 950, 950 (its alloy is 200), 944 and 950.
         Due.due("from below: lowest", f.orderOf(0, 4), 1);
         Due.due("from below: how many", f.orderOf(0, 5), 3);
         Due.due("from above: how many", f.orderOf(1, 5), 4);
         Due.due("exactly: lowest", f.orderOf(2, 4), 3);
         Due.due("exactly: how many", f.orderOf(2, 5), 1);
+        Due.due("the first bell: lowest", f.orderOf(3, 4), 0);
+        Due.due("the first bell: how many", f.orderOf(3, 5), 1);
+        f.pour(0, 997);
+        f.order(0, 951, 0);
+        Due.due("it is there", f.orderOf(4, 4), 5);
+        f.undo();
+        f.undo();
+        f.order(0, 951, 0);
+        Due.due("it is undone: lowest", f.orderOf(4, 4), -4);
+        Due.due("it is undone: how many", f.orderOf(4, 5), 0);
         f.send(1, 0);
         f.smash(2);
         Due.due("without sent and smashed ones: lowest", f.orderOf(1, 4), 3);
@@ -171,6 +183,7 @@ final class OrdersTest {
         f.order(1, 950, 5);
         f.order(1, 900, 50);
         f.order(0, 896, 0);
+        f.order(0, 944, 0);
         Due.due("it fits", f.tuneFor(0, 0), 0);
         Due.due("too low for ever", f.tuneFor(0, 1), -4);
         // By 6 a pound: 950, 944, .. 908, 902, 896.
@@ -179,16 +192,17 @@ final class OrdersTest {
         Due.due("another profile that would be near", f.tuneFor(0, 4), -4);
         Due.due("another profile", f.tuneFor(0, 5), -4);
         Due.due("nine pounds", f.tuneFor(0, 6), 9);
+        Due.due("one pound", f.tuneFor(0, 7), 1);
         Due.due("nothing is changed", f.bell(0, 2), 1000);
         Due.due("tuneFor(1, 0)", f.tuneFor(1, 0), -1);
-        Due.due("tuneFor(0, 7)", f.tuneFor(0, 7), -1);
+        Due.due("tuneFor(0, 8)", f.tuneFor(0, 8), -1);
         Due.due("tuneFor(-1, 0)", f.tuneFor(-1, 0), -1);
         Due.due("tuneFor(0, -1)", f.tuneFor(0, -1), -1);
         f.cancel(2);
         Due.due("for a cancelled order", f.tuneFor(0, 2), 8);
         f.tune(0, 101);
         Due.due("cracked", f.tuneFor(0, 0), -2);
-        Due.due("invalid ahead of cracked", f.tuneFor(0, 7), -1);
+        Due.due("invalid ahead of cracked", f.tuneFor(0, 8), -1);
         f.smash(0);
         Due.due("smashed", f.tuneFor(0, 0), -2);
         f.pour(0, 1000);
@@ -253,6 +267,21 @@ final class OrdersTest {
         Due.due("two pounds behind the burn", empty.pourFor(0), 1);
     }
 
+    private static void promise17ByRootAndAlloy() {
+        BellFoundry tin = Foundries.withoutBurn(0, 10000);
+        tin.order(0, 900 + 250, 0);
+        tin.order(0, 250, 0);
+        tin.order(0, 251, 0);
+        Due.due("up to the root 1000, of tin alone", tin.pourFor(0), 1003);
+        Due.due("any pitch", tin.pourFor(1), 9523);
+        Due.due("any pitch", tin.pourFor(2), 9523);
+        BellFoundry copper = Foundries.withoutBurn(10000, 0);
+        copper.order(0, 4500, 0);
+        copper.order(0, 4501, 0);
+        Due.due("the root of 8 is 200", copper.pourFor(0), 8);
+        Due.due("and no less", copper.pourFor(1), 7);
+    }
+
     private static void promise17ByTheMeltAlone() {
         BellFoundry f = Foundries.withoutBurn(8000, 2000);
         f.order(0, 950, 0);
@@ -311,6 +340,10 @@ final class OrdersTest {
         f.set(6, 999);
         Due.due("one is heavier than the load", f.wagons(15), -2);
         Due.due("without it", f.wagons(7), 2);
+        f.set(6, 599);
+        Due.due("the first is heavier than the load", f.wagons(1), -2);
+        Due.due("the second is not", f.wagons(2), 1);
+        f.undo();
         Due.due("invalid ahead of it", f.wagons(24), -1);
         f.order(0, f.bell(0, 5), 0);
         f.send(0, 0);
