@@ -9,16 +9,17 @@ import java.util.Set;
 /**
  * A sentence of the document that names a boundary, and calls on a new foundry that show whether it holds.
  *
- * Calls are written "buy 0 5 = 5"; those on one line are parted by ";". "12 x pour 0 100" makes a call twelve times, and
- * "write (0,1)" types each sign. A call without "=" only prepares, and must not be refused. least and greatest are the
- * least and the greatest int. Behind each call that is refused, and each that only asks, everything that can be asked
- * must be as if it had not been made, in the present and in all states of the history.
+ * Calls are written "buy 0 5 = 5"; those on one line are parted by ";". "12 x pour 0 100" makes a call twelve times,
+ * and "write (0,1)" types each sign. A call without "=" only prepares, and must not be refused. least and greatest
+ * are the least and the greatest int. Behind each call that is refused, and each that only asks, everything that can
+ * be asked must be as if it had not been made, in the present and in all states of the history.
  */
 final class Edge {
     private static final int MOST_CALLS = 512;
     private static final int MOST_STATES = 4;
-    private static final Set<String> CHANGES = Set.of("buy", "charge", "scrap", "pour", "tune", "smash", "order", "cancel",
-            "send", "set", "undo", "type", "clearText");
+    /** What changes the foundry, its history or its text, if it is not refused. */
+    private static final Set<String> CHANGES = Set.of("buy", "charge", "scrap", "pour", "tune", "smash", "order",
+            "cancel", "send", "set", "undo", "type", "clearText");
     private static final Map<String, Integer> PARAMETERS = parametersOfTheFace();
 
     private record Call(String name, int... a) {
@@ -123,6 +124,9 @@ final class Edge {
         for (int undone = 0; undone <= Math.min(states, MOST_STATES); undone++) {
             List<Call> questions = questions(undone);
             int atOnce = MOST_CALLS - changes.size() - 1 - undone;
+            if (atOnce < 1) {
+                return;
+            }
             for (int from = 0; from < questions.size(); from += atOnce) {
                 List<Call> some = questions.subList(from, Math.min(questions.size(), from + atOnce));
                 Due.holds(told + " leaves no trace, seen " + undone + " states back",

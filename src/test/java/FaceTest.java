@@ -5,6 +5,8 @@ import java.lang.reflect.Method;
 import java.lang.reflect.Modifier;
 import java.nio.file.Files;
 import java.nio.file.Path;
+import java.util.ArrayList;
+import java.util.List;
 import java.util.Set;
 import java.util.TreeSet;
 import java.util.regex.Matcher;
@@ -24,6 +26,7 @@ final class FaceTest {
         classAndConstants();
         methods();
         onlyTheFaceIsSeen();
+        sizes();
         source();
         Due.end();
     }
@@ -77,6 +80,21 @@ final class FaceTest {
                     && !Modifier.isPublic(inside.getModifiers()) && !Modifier.isProtected(inside.getModifiers()));
         }
         Due.holds("some twelve classes at most", BellFoundry.class.getDeclaredClasses().length <= 11);
+    }
+
+    private static void sizes() {
+        List<Class<?>> classes = new ArrayList<>(List.of(BellFoundry.class.getDeclaredClasses()));
+        classes.add(BellFoundry.class);
+        for (Class<?> each : classes) {
+            int fields = 0;
+            for (Field field : each.getDeclaredFields()) {
+                fields += Modifier.isStatic(field.getModifiers()) ? 0 : 1;
+            }
+            Due.holds(each + " has some twenty fields at most", fields <= 20);
+            for (Method method : each.getDeclaredMethods()) {
+                Due.holds(method + " takes at most seven parameters", method.getParameterCount() <= 7);
+            }
+        }
     }
 
     private static void source() throws IOException {
