@@ -19,6 +19,10 @@ final class FaceTest {
         "send2", "orderOf2", "tuneFor2", "pourFor1", "wagons1", "account2", "count1", "undo0", "type1", "clearText0",
         "fault1", "frame1"};
 
+    /** What the class uses of the library; all of it stands in LANGUAGE.md. */
+    private static final Set<String> LIBRARY =
+            Set.of("Math.abs", "Math.max", "Math.min", "Arrays.fill", "System.arraycopy");
+
     private FaceTest() {
     }
 
@@ -108,5 +112,22 @@ final class FaceTest {
             Due.holds(imports.group(), imports.group().matches("import java\\.util\\.(Arrays|ArrayList|List|Iterator);"));
         }
         Due.holds("signs 1 to 127 alone", code.chars().allMatch(sign -> sign > 0 && sign < 128));
+        Matcher library = Pattern.compile("\\b(Math|Arrays|System|Integer|Long|List|String)\\.\\w+").matcher(code);
+        while (library.find()) {
+            Due.holds(library.group() + " is in the library", LIBRARY.contains(library.group()));
+        }
+        lengths(source);
+    }
+
+    /** A method begins and ends with lines that stand as far in. */
+    private static void lengths(String source) {
+        Matcher method = Pattern.compile("(?ms)^( {4}| {8})[^ \n;{}][^\n;{}]*\\) \\{\n.*?^\\1\\}$").matcher(source);
+        int found = 0;
+        while (method.find()) {
+            found++;
+            String name = method.group().lines().findFirst().orElse("").trim();
+            Due.holds(name + " has some sixty lines at most", method.group().lines().count() <= 60);
+        }
+        Due.holds("methods were found: " + found, found > 100);
     }
 }
